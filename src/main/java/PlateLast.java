@@ -953,9 +953,9 @@ public final class PlateLast {
             for (int line = 0; line < size && line < MOST_SEATS; line++) {
                 for (int column = 0; column < size && column < MOST_SEATS; column++) {
                     int own = line == column ? TEN : 0;
-                    cells[line * WIDTH + column] = own - net.tenthsOf(order[line], order[column]);
+                    setCell(line, column, own - net.tenthsOf(order[line], order[column]));
                 }
-                cells[line * WIDTH + size] = TEN;
+                setCell(line, size, TEN);
             }
         }
 
@@ -969,10 +969,10 @@ public final class PlateLast {
                 for (int line = pivot + 1; line < size; line++) {
                     subtract(pivot, line, divisor);
                 }
-                divisor = cells[pivot * WIDTH + pivot];
+                divisor = cellAt(pivot, pivot);
             }
-            above = cells[(size - 1) * WIDTH + size];
-            below = cells[(size - 1) * WIDTH + size - 1];
+            above = cellAt(size - 1, size);
+            below = cellAt(size - 1, size - 1);
             return below > 0;
         }
 
@@ -980,11 +980,23 @@ public final class PlateLast {
             if (divisor == 0) {
                 return;
             }
-            long top = cells[pivot * WIDTH + pivot];
-            long side = cells[line * WIDTH + pivot];
+            long top = cellAt(pivot, pivot);
+            long side = cellAt(line, pivot);
             for (int column = pivot + 1; column <= size; column++) {
-                long cell = cells[line * WIDTH + column] * top - side * cells[pivot * WIDTH + column];
-                cells[line * WIDTH + column] = cell / divisor;
+                long cell = cellAt(line, column) * top - side * cellAt(pivot, column);
+                setCell(line, column, cell / divisor);
+            }
+        }
+
+        private long cellAt(int line, int column) {
+            int cell = line * WIDTH + column;
+            return cell >= 0 && cell < cells.length ? cells[cell] : 0;
+        }
+
+        private void setCell(int line, int column, long value) {
+            int cell = line * WIDTH + column;
+            if (cell >= 0 && cell < cells.length) {
+                cells[cell] = value;
             }
         }
     }
