@@ -751,7 +751,6 @@ public final class PlateLast {
 
         private void startWith(int state) {
             now.clear();
-            next.clear();
             now.add(state, 1);
         }
 

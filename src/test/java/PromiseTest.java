@@ -69,6 +69,7 @@ public final class PromiseTest {
         likeliest();
         rule();
         seedAndEvening();
+        longEvenings();
         uncle();
         slots();
         count();
@@ -188,6 +189,9 @@ public final class PromiseTest {
         dueFault("T2H010H100", -9);
         // all SEATS are told from wholly
         dueFault("T2H010H100H", 10);
+        dueFault("T2H100H", 7);
+        dueFault("T2H100H0", 8);
+        dueFault("T3H011", 6);
         dueFault("T3H015", 6);
         dueFault("T3H015H", 7);
         dueFault("T3H015H0", 8);
@@ -247,6 +251,14 @@ public final class PromiseTest {
         due("table()", x.table(), 5);
         due("count(2)", x.count(2), 0);
         due("again(1)", x.again(1), -3);
+        // of the table before nothing is left
+        x = of("T8");
+        put(x, "T3R4");
+        x.table();
+        dueChances(x, new int[][] {{0, 4, 6}, {6, 0, 4}, {4, 6, 0}});
+        put(x, "T2");
+        x.table();
+        dueChances(x, new int[][] {{10, 0}, {0, 10}});
     }
 
     private static void dueChances(PlateLast x, int[][] want) {
@@ -381,6 +393,8 @@ public final class PromiseTest {
         dueFraction("all(12) of all", x.all(12, true), x.all(12, false), 1, 1);
         due("all(13)", x.all(13, true), -2);
         due("all(-1)", x.all(-1, false), -2);
+        x.begin(1);
+        dueFraction("all(2) begun at 1", x.all(2, true), x.all(2, false), 29, 50);
         x = of("T3H010");
         dueFraction("all(12) where it stays", x.all(12, true), x.all(12, false), 0, 1);
         x = of("T8R1");
@@ -429,6 +443,8 @@ public final class PromiseTest {
         x = of("T3R3");
         due("sit(2)", x.sit(2), 2);
         due("sit(1)", x.sit(1), 1);
+        x.hand(2);
+        due("sit(2) from BEGIN still", x.sit(2), 2);
         x = new PlateLast();
         due("sit(12)", x.sit(12), 1);
         x.begin(1);
@@ -668,7 +684,8 @@ public final class PromiseTest {
         due("ways(1)", x.ways(1), 2);
         due("ways(2)", x.ways(2), 2);
         due("ways(3)", x.ways(3), 3);
-        due("ways(1) of T2", of("T2").ways(9), 1);
+        due("ways(9) of T2", of("T2").ways(9), 1);
+        due("ways(9) by a tenth", of("T3R1").ways(9), 512);
         x = of("T4H014H023H033H104H123H133H204H213H233H304H313H323");
         due("ways(9)", x.ways(9), 19683);
     }
@@ -689,6 +706,10 @@ public final class PromiseTest {
         x.see(2, 1);
         due("likeliest(2)", x.likeliest(2), -9);
         due("likeliest(1)", x.likeliest(1), 3);
+        x.unsee();
+        x.see(1, 1);
+        x.hand(1);
+        due("likeliest(1) from BEGIN", x.likeliest(1), 1);
         x.unsee();
         x.begin(3);
         due("likeliest(2) from 3", x.likeliest(2), 1);
@@ -788,6 +809,17 @@ public final class PromiseTest {
             due("evening() of a row from " + start, x.evening(), evening(line, start, start));
             due("seed(0)", x.seed(0), seedBehind);
         }
+    }
+
+    private static void longEvenings() {
+        promise = "27 evening";
+        PlateLast x = of("T8W4");
+        x.begin(1);
+        x.seed(294);
+        due("evening() by 200 HANDS", x.evening(), 2007);
+        x.begin(0);
+        x.seed(962);
+        due("evening() by 201 HANDS", x.evening(), -9);
     }
 
     private static long seedBehind;
@@ -902,6 +934,39 @@ public final class PromiseTest {
             due("back()", x.back(), left);
         }
         due("count(3)", x.count(3), 1);
+        // what comes between is written over, place by place
+        x.begin(1);
+        x.hand(2);
+        x.hand(3);
+        x.hand(2);
+        x.unsee();
+        x.see(1, 2);
+        x.see(3, 2);
+        x.keep(0);
+        x.begin(0);
+        x.hand(3);
+        x.hand(0);
+        x.hand(1);
+        x.unsee();
+        x.see(2, 0);
+        x.see(1, 1);
+        x.keep(1);
+        due("again(0)", x.again(0), 3);
+        due("ways(3)", x.ways(3), 2);
+        due("ways(1)", x.ways(1), 1);
+        due("back()", x.back(), 2);
+        due("count(3)", x.count(3), 3);
+        due("back()", x.back(), 1);
+        due("count(3)", x.count(3), 2);
+        due("again(1)", x.again(1), 3);
+        due("likeliest(2)", x.likeliest(2), 10);
+        due("back()", x.back(), 2);
+        due("count(3)", x.count(3), 0);
+        due("back()", x.back(), 1);
+        due("count(3)", x.count(3), 3);
+        x.begin(1);
+        x.unsee();
+        x.see(1, 0);
         // kept anew
         due("keep(0)", x.keep(0), 0);
         x.hand(0);
@@ -909,7 +974,7 @@ public final class PromiseTest {
         dueCounts(x, 4, 4, 1, 1, 2, 0, 1, 0);
         // THE TEXT is not kept
         put(x, "T5");
-        due("again(1)", x.again(1), 4);
+        due("again(1)", x.again(1), 3);
         due("count(0)", x.count(0), 2);
     }
 
