@@ -552,6 +552,22 @@ public final class EdgeTest {
         due("again(0)", x.again(0), -3);
         due("again(1)", x.again(1), -3);
         due("seed(6)", x.seed(6), 5);
+        sentence = "5: of THE TABLE before nothing is left, nor of what was only looked at";
+        PlateLast other = of("T3");
+        put(other, "T3H120H210");
+        due("fault()", other.fault(), NONE);
+        put(other, "T3R4");
+        due("table()", other.table(), 3);
+        for (int from = 0; from < 3; from++) {
+            due("chance to itself", other.chance(from, from), 0);
+            due("chance to the next one", other.chance(from, (from + 1) % 3), 4);
+            due("chance to the one ahead", other.chance(from, (from + 2) % 3), 6);
+        }
+        put(other, "T3H100");
+        due("table()", other.table(), 3);
+        due("chance(1, 2)", other.chance(1, 2), 0);
+        due("chance(2, 2)", other.chance(2, 2), 10);
+        due("end(1)", other.end(1, true), -3);
         sentence = "5: fewer SEATS than the one where THE PLATE was";
         x.begin(3);
         put(x, "T2");
@@ -587,6 +603,7 @@ public final class EdgeTest {
         x.keep(1);
         x.begin(0);
         due("count(6)", x.count(6), 1);
+        due("seed(8)", x.seed(8), 9);
         due("again(1)", x.again(1), 1);
         due("seed(0)", x.seed(0), 9);
     }
@@ -987,6 +1004,8 @@ public final class EdgeTest {
         x.hand(1);
         due("judge(1, 0)", x.judge(1, 0), NONE);
         due("judge(1, 2)", x.judge(1, 2), 0);
+        dueFraction("likely(1, 0)", x.likely(1, 0, true), x.likely(1, 0, false), 9, 10);
+        dueFraction("likely(1, 2)", x.likely(1, 2, true), x.likely(1, 2, false), 0, 1);
         sentence = "19: where it stays";
         x = of("T2", 1);
         due("judge(9, 111111111)", x.judge(9, 111111111), NONE);
@@ -1102,6 +1121,11 @@ public final class EdgeTest {
         sentence = "24: the likeliest is not by the likeliest step each time";
         x = of("T5H016H024H135H145H230");
         due("likeliest(2)", x.likeliest(2), 23);
+        sentence = "24: from BEGIN, wherever THE PLATE is";
+        x = of("T8R9", 5);
+        x.hand(6);
+        x.hand(7);
+        due("likeliest(3)", x.likeliest(3), 670);
         sentence = "24: NONE: there is none";
         x = of("T2R5");
         x.see(1, 0);
@@ -1165,6 +1189,12 @@ public final class EdgeTest {
         x.hand(0);
         due("rule()", x.rule(), 3);
         due("count(5)", x.count(5), 2);
+        x = of("T4H010H120H230");
+        due("rule() from 0", x.rule(), 3);
+        x.hand(1);
+        due("rule() from 0, THE PLATE at 1", x.rule(), 3);
+        x.begin(1);
+        due("rule() from 1", x.rule(), NONE);
     }
 
     private static void theSeed() {
@@ -1291,6 +1321,11 @@ public final class EdgeTest {
         due("count(3)", x.count(3), 3);
         due("count(4)", x.count(4), 14);
         due("count(5)", x.count(5), 2);
+        x = of("T4H010H120H230");
+        x.hand(1);
+        due("evening() from 0, THE PLATE at 1", x.evening(), 33);
+        x.begin(1);
+        due("evening() from 1", x.evening(), NONE);
     }
 
     private static void theUncle() {
