@@ -764,7 +764,8 @@ public final class PlateLast {
         long weightAt(Net net, int place, int n, int seat) {
             startWith(place);
             for (int step = 0; step < n; step++) {
-                for (int i = 0; i < now.size; i++) {
+                int states = now.size;
+                for (int i = 0; i < states; i++) {
                     int from = now.stateAt(i);
                     long weight = now.weightOf(from);
                     for (int to = 0; to < net.seats; to++) {
@@ -791,7 +792,8 @@ public final class PlateLast {
             startWith(had * MOST_SEATS + place);
             for (int step = 1; step <= n; step++) {
                 long rest = power(TEN, n - step);
-                for (int i = 0; i < now.size; i++) {
+                int states = now.size;
+                for (int i = 0; i < states; i++) {
                     handOn(net, now.stateAt(i), rest);
                 }
                 stepOn();
@@ -822,7 +824,8 @@ public final class PlateLast {
             startWith(one * MOST_SEATS + other);
             for (int step = 1; step <= n; step++) {
                 long rest = power(TEN * TEN, n - step);
-                for (int i = 0; i < now.size; i++) {
+                int states = now.size;
+                for (int i = 0; i < states; i++) {
                     met += rest * handBoth(net, now.stateAt(i));
                 }
                 stepOn();
@@ -853,7 +856,8 @@ public final class PlateLast {
         int waysOf(Net net, Night night, int n) {
             startWith(night.start);
             for (int step = 1; step <= n; step++) {
-                for (int i = 0; i < now.size; i++) {
+                int states = now.size;
+                for (int i = 0; i < states; i++) {
                     int from = now.stateAt(i);
                     long weight = now.weightOf(from);
                     for (int to = 0; to < net.seats; to++) {
@@ -1005,7 +1009,8 @@ public final class PlateLast {
         final long[] best = new long[(MOST_IN_ROW + 1) * MOST_SEATS];
 
         private static int figureOf(int n, int row, int place) {
-            return (int) (row / power(TEN, n - 1 - place) % TEN);
+            long unit = power(TEN, n - 1 - place);
+            return unit < 1 ? 0 : (int) (row / unit % TEN);
         }
 
         int firstWrong(Net net, int start, int n, int row) {

@@ -36,7 +36,10 @@ public final class LanguageTest {
         face();
         constants();
         nested();
-        words(bare(Files.readString(Path.of(SOURCE))));
+        String source = bare(Files.readString(Path.of(SOURCE)));
+        words(source);
+        divisors(source);
+        made(source);
         System.out.println("the face and the language: " + wrong + " wrong");
         if (wrong != 0) {
             System.exit(1);
@@ -159,6 +162,42 @@ public final class LanguageTest {
             if (lines[i].matches("    (    )?\\}") && i - begun > 60) {
                 say("the method in line " + begun + " is longer than sixty lines");
                 begun = i;
+            }
+        }
+    }
+
+    /** A divisor is a constant, or a name that a line of the same method compares before it divides. */
+    private static void divisors(String source) {
+        Matcher found = Pattern.compile("[/%]=?\\s*([\\w(.\\[]+)").matcher(source);
+        while (found.find()) {
+            String divisor = found.group(1);
+            if (divisor.matches("[A-Z][A-Z_]*|[1-9]\\d*")) {
+                continue;
+            }
+            // an empty line stands between two methods, and none inside one
+            int begun = source.lastIndexOf("\n\n", found.start());
+            String ahead = source.substring(Math.max(begun, 0), found.start());
+            if (!divisor.matches("\\w+") || !ahead.matches("(?s).*\\b" + divisor + " (<|==|!=) [01]\\b.*")) {
+                say("nothing looks at the divisor " + divisor + " before it divides");
+            }
+        }
+    }
+
+    /** Objects are made in the constructor and where fields are told, in no call. */
+    private static void made(String source) {
+        int inside = source.indexOf("private static final class");
+        int constructor = source.indexOf("public PlateLast() {");
+        int behind = source.indexOf("\n    }", constructor);
+        if (constructor < 0 || behind < 0 || inside < behind) {
+            say("the constructor does not stand ahead of the classes inside");
+            return;
+        }
+        if (source.substring(0, constructor).contains(" new ") || source.substring(behind, inside).contains(" new ")) {
+            say("a method of the face makes an object");
+        }
+        for (String line : source.substring(inside).split("\n")) {
+            if (line.matches(" {12,}.*\\bnew\\b.*")) {
+                say("a method inside makes an object: " + line.trim());
             }
         }
     }
